@@ -190,6 +190,8 @@ public final class PromisesTest {
         makes(2, 9, 3, sides(ANY, EDGE), "012301230123", "012301230123");
         makes(2, 9, 3, sides(ANY, EDGE), "01230123012", "012301230123");
         makes(2, 9, 3, 1023, "000000000000", "303030303030");
+        makes(2, 9, 0, 1023, "000000000000", "000000000000");
+        makes(2, 9, 3, sides(ANY, EDGE), "000000000000", "000000000000");
         // they are cut after each rule, not once at the end
         RuleCascade x = withWord("012301230122");
         x.rule(2, 0, 3, sides(EDGE, ANY));
@@ -257,6 +259,7 @@ public final class PromisesTest {
         due("push(-1) on a full word", x.push(-1), BAD_ARG);
         due("still the twelve", x.after(0), code("123012301230"));
         due("letters 0 at the front count", withWord("00").push(0), 3);
+        due("push on twelve letters 0", withWord("000000000000").push(0), FULL);
         due("greatest code", withWord("333333333333").after(0), 33554431);
         due("least code of twelve", withWord("000000000000").after(0), 16777216);
     }
@@ -345,6 +348,10 @@ public final class PromisesTest {
         due("of the empty word: sources(5)", x.sources(5), 1);
         spell(x, "0");
         due("of a word that is no result", x.sources(1), 0);
+        RuleCascade none = withWord("000000000002");
+        none.rule(0, 0, 0, 0);
+        due("of a longer word with idle rules", none.sources(0), 0);
+        due("of a longer word with idle rules", none.source(0, 0), NONE);
     }
 
     private static void source() {
