@@ -4,9 +4,10 @@ import java.util.function.Supplier;
 import java.util.function.ToIntFunction;
 
 /**
- * Each sentence of the document that names a boundary (too small, too large, empty, full, a
- * wrap-around, a refused call), by itself and on objects of its own. Every refused call is also
- * looked at for what it must not change, and a call that throws is a failure of its sentence.
+ * Each sentence of the document, or part of one, that names a boundary (too small, too large,
+ * empty, full, a wrap-around, a refused call), by itself and on objects of its own. What is asked
+ * through refused() is also looked at for what it must not change, and a call that throws is a
+ * failure of its sentence.
  */
 public final class BoundaryTest {
     private static final int BAD_ARG = -1;
@@ -886,8 +887,10 @@ public final class BoundaryTest {
             refused("source(" + n + ", 0) of none", NONE, () -> withAllGone("0"),
                     x -> x.source(asked, 0));
             for (int bad : outside(1023)) {
-                due("source(" + n + ", " + bad + ")", withAllGone("").source(n, bad), NONE);
-                due("source(" + n + ", " + bad + ") of none", withAllGone("0").source(n, bad), NONE);
+                refused("source(" + n + ", " + bad + ")", NONE, () -> withAllGone(""),
+                        x -> x.source(asked, bad));
+                refused("source(" + n + ", " + bad + ") of none", NONE, () -> withAllGone("0"),
+                        x -> x.source(asked, bad));
             }
         }
     }
